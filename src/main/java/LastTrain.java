@@ -784,7 +784,9 @@ public final class LastTrain {
                 return false;
             }
             rungOnes[sights] = one;
-            yeses = yes ? yeses | 1 << sights : yeses & ~(1 << sights);
+            if (yes) {
+                yeses |= 1 << sights;
+            }
             sights++;
             return true;
         }

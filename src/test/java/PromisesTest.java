@@ -227,7 +227,7 @@ public final class PromisesTest {
         judged("A$B~", 1, 5);
         judged("A+B~~~", 3, 5);
         judged("A+BA>B>C>.~~~", 7, 5);
-        LastTrain x = months("A>B>.C>C>D>.~".substring(0, 12));
+        LastTrain x = months("A>B>.C>C>D>.");
         due.is("8 three went", x.judge(2), 3);
         due.is("8 nothing that can not be", x.judge(0), LastTrain.NONE);
         due.is("8 nothing that can not be", x.judge(1), LastTrain.NONE);
@@ -254,7 +254,7 @@ public final class PromisesTest {
     }
 
     private static void promise9behind() {
-        LastTrain x = months("A+BB+CC$DEdF>G>Gd.G".substring(0, 18));
+        LastTrain x = months("A+BB+CC$DEdF>G>Gd.");
         behind(x, 0, 1, 0, 0, 1, 2);
         behind(x, 1, 1, 0, 0, 1, 4);
         behind(x, 2, 1, 0, 0, 1, 11);
@@ -311,6 +311,8 @@ public final class PromisesTest {
         Due.write(x, "AdA>.");
         due.is("11 nobody", x.taken(0), LastTrain.NONE);
         due.is("11 nobody", x.taken(1), LastTrain.NONE);
+        Due.write(x, "BdB>C>A>.");
+        due.is("11 B has a dog, C goes and A", x.taken(1), 0);
         Due.write(x, "J>.");
         due.is("11 the last one", x.taken(0), 1);
         due.is("11 the last one", x.taken(1), 9);
@@ -422,6 +424,7 @@ public final class PromisesTest {
         due.is("15 the dog is enough", x.loose(0, 1), LastTrain.NONE);
         x.law(3, 0);
         due.is("15 dogs do not count", x.loose(0, 0), 1);
+        due.is("15 of the other side", x.loose(5, 1), 1);
         x.one(5, 0, 0);
         due.is("15 who is away has no part", x.loose(0, 0), 0);
         due.is("15 of who is away", x.loose(5, 0), LastTrain.UNKNOWN);
@@ -545,6 +548,14 @@ public final class PromisesTest {
             x.tie(9, one, 0, 5);
         }
         x.tie(8, 0, 3, 5);
+        x.image(0);
+        x.tie(9, 4, 0, 0);
+        for (int one = 5; one < 10; one++) {
+            x.tie(1, one, 0, 5);
+        }
+        due.is("22 B halves them", x.ring(0), 1);
+        due.is("22 B halves them", x.ring(1), 5);
+        x.restore(0);
         due.is("22 J halves them", x.ring(0), 9);
         due.is("22 five", x.ring(1), 5);
         x.one(9, 0, 0);
