@@ -40,7 +40,6 @@ public final class LastTrain {
 
     private static final int RUNG_IN_ORDER = 6;
     private static final int PLACES_BELOW_ONE = 100000;
-    private static final int[] PLACES = {100000, 10000, 1000, 100, 10, 1};
     private static final int[] DRAWN_DEEDS = {'+', '+', '-', '$', '>', '>', '.', '~'};
 
     private final Town town = new Town();
@@ -414,7 +413,11 @@ public final class LastTrain {
     }
 
     private static int digit(int odds, int place) {
-        return place >= 0 && place < PLACES.length ? odds / PLACES[place] % 10 : 0;
+        int left = odds;
+        for (int below = place + 1; below < RUNG_IN_ORDER; below++) {
+            left /= 10;
+        }
+        return left % 10;
     }
 
     /*

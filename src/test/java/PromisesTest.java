@@ -34,12 +34,6 @@ public final class PromisesTest {
         due.end();
     }
 
-    private static LastTrain months(String text) {
-        LastTrain x = new LastTrain();
-        Due.say(x, text);
-        return x;
-    }
-
     private static void promise1aNewObject() {
         LastTrain x = new LastTrain();
         due.is("1 city", x.told(1), 1023);
@@ -137,7 +131,7 @@ public final class PromisesTest {
     }
 
     private static void promise6wipe() {
-        LastTrain x = months("A+B.~");
+        LastTrain x = Due.months("A+B.~");
         due.is("6 wiped", x.wipe(), 5);
         due.is("6 empty", x.wipe(), 0);
         due.is("6 no fault", x.fault(), LastTrain.NONE);
@@ -149,7 +143,7 @@ public final class PromisesTest {
     }
 
     private static void fault(String text, int want) {
-        due.is("7 fault of " + text, months(text).fault(), want);
+        due.is("7 fault of " + text, Due.months(text).fault(), want);
     }
 
     private static void promise7fault() {
@@ -194,7 +188,7 @@ public final class PromisesTest {
     }
 
     private static void judged(String text, int act, int why) {
-        LastTrain x = months(text);
+        LastTrain x = Due.months(text);
         due.is("8 act of " + text, x.judge(0), act);
         due.is("8 why of " + text, x.judge(1), why);
         due.is("8 how many of " + text, x.judge(2), LastTrain.STATE);
@@ -227,7 +221,7 @@ public final class PromisesTest {
         judged("A$B~", 1, 5);
         judged("A+B~~~", 3, 5);
         judged("A+BA>B>C>.~~~", 7, 5);
-        LastTrain x = months("A>B>.C>C>D>.");
+        LastTrain x = Due.months("A>B>.C>C>D>.");
         due.is("8 three went", x.judge(2), 3);
         due.is("8 nothing that can not be", x.judge(0), LastTrain.NONE);
         due.is("8 nothing that can not be", x.judge(1), LastTrain.NONE);
@@ -254,7 +248,7 @@ public final class PromisesTest {
     }
 
     private static void promise9behind() {
-        LastTrain x = months("A+BB+CC$DEdF>G>Gd.");
+        LastTrain x = Due.months("A+BB+CC$DEdF>G>Gd.");
         behind(x, 0, 1, 0, 0, 1, 2);
         behind(x, 1, 1, 0, 0, 1, 4);
         behind(x, 2, 1, 0, 0, 1, 11);
@@ -263,13 +257,13 @@ public final class PromisesTest {
         behind(x, 5, 0, 0, 0, LastTrain.NONE, 0);
         behind(x, 6, 1, 1, 0, 1, 0);
         behind(x, 7, 1, 0, 0, 0, 0);
-        x = months("A>A+B");
+        x = Due.months("A>A+B");
         behind(x, 0, 1, 0, 1, 1, 2);
         x.law(1, 3);
         Due.say(x, ".");
         behind(x, 0, 0, 0, 0, LastTrain.NONE, 2);
         behind(x, 1, 1, 0, 0, 0, 0);
-        x = months("AdBdA>B>.");
+        x = Due.months("AdBdA>B>.");
         x.law(3, 0);
         behind(x, 0, 0, 1, 0, LastTrain.NONE, 0);
         x.wipe();
@@ -277,7 +271,7 @@ public final class PromisesTest {
     }
 
     private static void promise10city() {
-        LastTrain x = months("");
+        LastTrain x = Due.months("");
         due.is("10 empty", x.city(0), 1023);
         due.is("10 empty", x.city(1), 0);
         due.is("10 empty", x.city(2), 0);
@@ -305,7 +299,7 @@ public final class PromisesTest {
     }
 
     private static void promise11taken() {
-        LastTrain x = months("AdA>.B>C>.D>.");
+        LastTrain x = Due.months("AdA>.B>C>.D>.");
         due.is("11 A has a dog", x.taken(0), 5);
         due.is("11 the least", x.taken(1), 1);
         Due.write(x, "AdA>.");
@@ -321,7 +315,7 @@ public final class PromisesTest {
     }
 
     private static void promise12done() {
-        LastTrain x = months("A+BA$CBdD>.~E>");
+        LastTrain x = Due.months("A+BA$CBdD>.~E>");
         x.rung(3, true);
         due.is("12 acts", x.done(), 7);
         due.is("12 pad", x.told(0), 0);
@@ -360,9 +354,7 @@ public final class PromisesTest {
         x.done();
         due.is("13 who waits now does not matter", x.stays(0), 0b1110000);
         due.is("13 all wait still", x.told(3), 7);
-        for (int one = 0; one < 10; one++) {
-            x.one(one, 0, 0);
-        }
+        Due.allAway(x);
         due.is("13 nobody in the city", x.stays(0), 0);
         due.is("13 nobody in the city", x.stays(1), 0);
         LastTrain chain = new LastTrain();
@@ -449,9 +441,7 @@ public final class PromisesTest {
         x.tie(1, 2, 3, 1);
         due.is("16 one of three at most", x.seats(9, 1), 0b1111000001);
         due.is("16 how many", x.seats(9, 0), 5);
-        for (int one = 0; one < 10; one++) {
-            x.one(one, 0, 0);
-        }
+        Due.allAway(x);
         due.is("16 nobody", x.seats(9, 0), 0);
         x.one(2, 1, 1);
         due.is("16 by its dog it is missed", x.seats(9, 0), 0);
@@ -599,15 +589,20 @@ public final class PromisesTest {
         answers(x, 8, 10, 1, 8, 1);
         answers(x, 9, 9, 0, 387420489, 1000000000);
         answers(x, 10, 10, 1, 9, 1);
-        Model m = new Model();
         for (int enough = 1; enough <= 9; enough += 2) {
+            allAnswers(enough);
+        }
+    }
+
+    private static void allAnswers(int enough) {
+        Model m = new Model();
+        m.law(0, enough);
+        for (int n = 0; n <= 10; n++) {
+            LastTrain x = new LastTrain();
             x.law(0, enough);
-            m.law(0, enough);
-            for (int n = 0; n <= 10; n++) {
-                for (int t = 0; t <= 10; t++) {
-                    for (int what = 0; what < 2; what++) {
-                        answers(x, n, t, what, m.answers(n, t, what, 0), m.answers(n, t, what, 1));
-                    }
+            for (int t = 0; t <= 10; t++) {
+                for (int what = 0; what < 2; what++) {
+                    answers(x, n, t, what, m.answers(n, t, what, 0), m.answers(n, t, what, 1));
                 }
             }
         }
@@ -625,6 +620,7 @@ public final class PromisesTest {
         due.is("24 the last number", x.number(999, 1), 9);
         Model m = new Model();
         for (int n = 0; n <= 999; n++) {
+            x = new LastTrain();
             due.is("24 whether " + n, x.number(n, 0), m.number(n, 0));
             due.is("24 which of " + n, x.number(n, 1), m.number(n, 1));
         }
@@ -656,28 +652,36 @@ public final class PromisesTest {
         due.is("25 a night", x.year(8, 1, 0), 9);
         due.is("25 a night's cut", x.year(8, 1, 2), 5);
         due.is("25 all ties still", x.year(8, 1, 1), 5);
-        for (int one = 0; one < 10; one++) {
-            x.one(one, 0, 0);
-        }
+        Due.allAway(x);
         due.is("25 all away", x.year(5, 99, 0), 0);
         due.is("25 ties of who is away", x.year(5, 99, 1), 5);
         Model m = new Model();
-        LastTrain y = new LastTrain();
-        due.is("25 same start", y.law(0, 2), m.law(0, 2));
         for (int one = 0; one < 9; one++) {
-            due.is("25 same start", y.tie(one, one + 1, one % 4, one), m.tie(one, one + 1, one % 4, one));
+            m.tie(one, one + 1, one % 4, one);
         }
+        m.law(0, 2);
         for (char sign : "A>C>E>".toCharArray()) {
-            due.is("25 same start", y.say(sign), m.say(sign));
+            m.say(sign);
         }
-        due.is("25 same start", y.done(), m.done());
-        String before = Due.lookOf(y);
+        m.done();
+        String before = Due.lookOf(waitingChain());
         for (int seed = 0; seed <= 9999; seed += 33) {
+            LastTrain y = waitingChain();
             for (int what = 0; what < 3; what++) {
                 due.is("25 year " + seed, y.year(seed, 99 - seed % 98, what), m.year(seed, 99 - seed % 98, what));
             }
+            due.isText("25 nothing is done", Due.lookOf(y), before);
         }
-        due.isText("25 nothing is done", Due.lookOf(y), before);
+    }
+
+    private static LastTrain waitingChain() {
+        LastTrain x = new LastTrain();
+        for (int one = 0; one < 9; one++) {
+            x.tie(one, one + 1, one % 4, one);
+        }
+        x.law(0, 2);
+        Due.live(x, "A>C>E>");
+        return x;
     }
 
     private static void promise26image() {

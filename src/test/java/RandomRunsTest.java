@@ -1,9 +1,11 @@
 import java.util.Random;
 
-/** Long runs of calls, drawn by fixed seeds, against the model; after each call all is compared. */
+/** Runs of calls, drawn by fixed seeds, against the model; each ends with a look at all, and no later than at 512 calls. */
 public final class RandomRunsTest {
-    private static final int RUNS = 150;
+    private static final int RUNS = 1500;
     private static final int CALLS = 512;
+    private static final int CALLS_OF_ONE_DRAW = 6;
+    private static final int CALLS_OF_THE_LOOK = 180;
     private static final String LETTERS = "ABCDEFGHIJ";
 
     private final Random draw;
@@ -21,17 +23,24 @@ public final class RandomRunsTest {
         for (int run = 0; run < RUNS; run++) {
             RandomRunsTest test = new RandomRunsTest(run);
             test.prepare();
-            for (int call = 0; call < CALLS; call++) {
+            // Runs of all lengths, so that the look at their end falls on all that can be under way.
+            int most = CALLS - CALLS_OF_THE_LOOK - CALLS_OF_ONE_DRAW;
+            int length = 60 + run * 7919 % (most - 59);
+            while (test.calls < length) {
                 test.callOne();
             }
+            test.compare();
             all.is("wrong answers of run " + run, test.wrong, 0);
+            all.is("calls too many of run " + run, Math.max(0, test.calls - CALLS), 0);
         }
         all.end();
     }
 
     private int wrong = 0;
+    private int calls = 0;
 
     private void same(String call, long got, long want) {
+        calls++;
         if (got != want) {
             wrong++;
             if (wrong < 5) {
@@ -98,7 +107,7 @@ public final class RandomRunsTest {
     private void callOne() {
         int a = within(0, 9), what = within(0, 1), what3 = within(0, 2);
         int odds = draw.nextInt(3) == 0 ? within(0, 999999) : "0059".charAt(draw.nextInt(4)) - '0' + 111 * draw.nextInt(9009);
-        switch (draw.nextInt(34)) {
+        switch (draw.nextInt(37)) {
             case 0, 1 -> tie();
             case 2 -> one();
             case 3 -> law();
@@ -133,9 +142,14 @@ public final class RandomRunsTest {
             case 30 -> same("image " + what, x.image(what), m.image(what));
             case 31 -> same("restore " + what, x.restore(what), m.restore(what));
             case 32 -> same("forget", x.forget(), m.forget());
+            case 33 -> {
+                int told = draw.nextInt(4) == 0 ? within(0, 5) : within(0, 299);
+                same("told " + told, x.told(told), m.told(told));
+            }
+            case 34 -> same("who", x.who(), m.who());
+            case 35 -> same("fault", x.fault(), m.fault());
             default -> sight(a);
         }
-        compare();
     }
 
     private void sight(int a) {
@@ -150,8 +164,16 @@ public final class RandomRunsTest {
 
     /** What calls that change nothing tell of all that is held. */
     private void compare() {
-        for (int what = -2; what < 303; what++) {
+        for (int what = 0; what < 14; what++) {
             same("told " + what, x.told(what), m.told(what));
+        }
+        for (int one = 0; one < 10; one++) {
+            same("behind " + one, x.behind(one, 4), m.behind(one, 4));
+            for (int other = 0; other < one; other++) {
+                int both = 10 * one + other;
+                same("strength " + both, x.told(100 + both), m.told(100 + both));
+                same("kind " + both, x.told(200 + both), m.told(200 + both));
+            }
         }
         same("fault", x.fault(), m.fault());
         same("who", x.who(), m.who());

@@ -357,17 +357,16 @@ final class Model implements Cloneable {
     }
 
     private static int[] digits(int odds) {
-        String text = String.format("%06d", odds);
         int[] digits = new int[6];
-        for (int i = 0; i < 6; i++) digits[i] = text.charAt(i) - '0';
+        for (int i = 5, left = odds; i >= 0; i--, left /= 10) digits[i] = left % 10;
         return digits;
     }
 
     /** The mean of an order, as so many of 100000. */
-    private static long mean(int[] odds, int order) {
+    private static long mean(int[] odds, int[] order) {
         long sum = 0;
         long silent = 100000;
-        for (int who : digits(order)) {
+        for (int who : order) {
             sum += silent;
             silent = silent * (10 - odds[who]) / 10;
         }
@@ -380,21 +379,23 @@ final class Model implements Cloneable {
         return met == 63;
     }
 
-    private static final List<Integer> ORDERS = new ArrayList<>();
+    private static final List<int[]> ORDERS = new ArrayList<>();
 
     static {
         for (int order = 0; order <= 543210; order++) {
-            if (isOrder(order)) ORDERS.add(order);
+            if (isOrder(order)) ORDERS.add(digits(order));
         }
     }
 
     int order(int odds) {
         if (odds < 0 || odds > 999999) return -2;
-        int best = ORDERS.get(0);
-        for (int order : ORDERS) {
+        int[] best = ORDERS.get(0);
+        for (int[] order : ORDERS) {
             if (mean(digits(odds), order) < mean(digits(odds), best)) best = order;
         }
-        return best;
+        int told = 0;
+        for (int who : best) told = 10 * told + who;
+        return told;
     }
 
     private static long lowest(BigInteger upper, BigInteger lower, int part) {
@@ -404,7 +405,7 @@ final class Model implements Cloneable {
 
     long calls(int odds, int part) {
         if (odds < 0 || odds > 999999 || !flag(part)) return -1000000000000000002L;
-        long mean = mean(digits(odds), order(odds));
+        long mean = mean(digits(odds), digits(order(odds)));
         return lowest(BigInteger.valueOf(mean), BigInteger.valueOf(100000), part);
     }
 
