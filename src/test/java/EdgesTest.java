@@ -315,8 +315,8 @@ public final class EdgesTest {
         LastTrain x = new LastTrain();
         x.tie(0, 1, kind, v);
         Due.live(x, text);
-        due.is(text + " of " + v + " from both sides", x.told(110), x.told(101));
-        due.is(text + " of " + v + " by kind from both sides", x.told(210), x.told(201));
+        due.is("12 " + text + " of " + v + " from both sides", x.told(110), x.told(101));
+        due.is("12 " + text + " of " + v + " by kind from both sides", x.told(210), x.told(201));
         return x.told(101) + 10 * x.told(201);
     }
 
