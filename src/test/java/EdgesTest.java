@@ -559,6 +559,13 @@ public final class EdgesTest {
         due.is("15 all three, with a dog", x.loose(0, 1), 14);
         x.law(0, 1);
         due.is("15 the dog is enough", x.loose(0, 1), NONE);
+        for (int enough = 5; enough <= 9; enough++) {
+            x.law(0, enough);
+            due.is("15 far from missed, with a dog, enough is " + enough, x.loose(0, 0), 0);
+            due.is("15 far from missed, with a dog, enough is " + enough, x.loose(0, 1), 0);
+            due.is("15 far from missed, by nobody, enough is " + enough, x.loose(9, 0), 0);
+            due.is("15 far from missed, by nobody, enough is " + enough, x.loose(9, 1), 0);
+        }
         LastTrain y = new LastTrain();
         for (int seats = 0; seats <= 9; seats++) {
             due.is("16 so many as there are seats", y.seats(seats, 0), seats);
